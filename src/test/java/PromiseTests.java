@@ -1,12 +1,6 @@
 // One method for each promise of the document, with ordinary inputs, the edges and wrong inputs.
-public final class PromiseTests {
-    private static final int REFUSED = PackratGrammar.REFUSED;
-    private static final int FAILS = PackratGrammar.FAILS;
-    private static final int STUCK = PackratGrammar.STUCK;
+public final class PromiseTests extends DueAnswers {
     private static final int[] FAR = {Integer.MIN_VALUE, -100, Integer.MAX_VALUE};
-
-    private static int wrong = 0;
-    private static String promise = "";
 
     public static void main(String[] args) {
         newObject();
@@ -27,14 +21,11 @@ public final class PromiseTests {
         treeParts();
         treeRepetitions();
         orderAndLimits();
-        System.out.println(wrong == 0 ? "all answers are as due" : wrong + " answers are not as due");
-        if (wrong != 0) {
-            System.exit(1);
-        }
+        end();
     }
 
     private static void newObject() {
-        promise = "1";
+        about("promise 1");
         PackratGrammar x = new PackratGrammar();
         due("nodes", x.nodes(), 0);
         due("node(0, 0)", x.node(0, 0), REFUSED);
@@ -49,7 +40,7 @@ public final class PromiseTests {
     }
 
     private static void put() {
-        promise = "2";
+        about("promise 2");
         for (int token = -3; token < 130; token++) {
             boolean isToken = token >= 97 && token <= 122 || token >= 1 && token <= 3
                 || token >= 10 && token <= 16 || token >= 20 && token <= 23;
@@ -104,7 +95,7 @@ public final class PromiseTests {
     }
 
     private static void define() {
-        promise = "3";
+        about("promise 3");
         int[][] whole = {{97}, {122}, {1}, {2}, {3, 97, 99}, {3, 99, 97}, {10, 97, 98}, {11, 1, 2},
             {12, 97}, {13, 1}, {14, 2}, {15, 97}, {16, 20}, {20}, {23}, {10, 3, 97, 98, 97},
             {11, 10, 97, 98, 12, 99}, {12, 12, 12, 12, 12, 12, 12, 12, 12, 12, 12, 97},
@@ -167,7 +158,7 @@ public final class PromiseTests {
     }
 
     private static void insert() {
-        promise = "4";
+        about("promise 4");
         PackratGrammar x = new PackratGrammar();
         due("beyond the end", x.insert(1, 97), REFUSED);
         due("before the start", x.insert(-1, 97), REFUSED);
@@ -196,7 +187,7 @@ public final class PromiseTests {
     }
 
     private static void erase() {
-        promise = "5";
+        about("promise 5");
         PackratGrammar x = withText("abcdefghijklmnop");
         due("at the length", x.erase(16), REFUSED);
         due("before the start", x.erase(-1), REFUSED);
@@ -218,7 +209,7 @@ public final class PromiseTests {
     }
 
     private static void change() {
-        promise = "6";
+        about("promise 6");
         PackratGrammar x = withText("abc");
         due("middle", x.change(1, 122), 98);
         due("the new one is the old one", x.change(1, 97), 122);
@@ -240,7 +231,7 @@ public final class PromiseTests {
     }
 
     private static void letter() {
-        promise = "7";
+        about("promise 7");
         PackratGrammar x = withText("azm");
         due("letter(0)", x.letter(0), 97);
         due("letter(1)", x.letter(1), 122);
@@ -257,7 +248,7 @@ public final class PromiseTests {
     }
 
     private static void parseLeaves() {
-        promise = "8";
+        about("promise 8");
         dueOutcomes("abz", new int[] {1, FAILS, FAILS, FAILS}, 97);
         dueOutcomes("abz", new int[] {FAILS, FAILS, 3, FAILS}, 122);
         dueOutcomes("abz", new int[] {1, 2, 3, FAILS}, 1);
@@ -367,7 +358,7 @@ public final class PromiseTests {
     }
 
     private static void nodes() {
-        promise = "9";
+        about("promise 9");
         PackratGrammar x = withText("aab");
         defined(x, 0, 11, 10, 97, 20, 98);
         due("before the parse", x.nodes(), 0);
@@ -419,7 +410,7 @@ public final class PromiseTests {
     }
 
     private static void nodeFields() {
-        promise = "10";
+        about("promise 10");
         PackratGrammar x = withText("xab");
         defined(x, 2, 10, 23, 20);
         defined(x, 3, 97);
@@ -439,7 +430,7 @@ public final class PromiseTests {
     }
 
     private static void treeParts() {
-        promise = "8, the tree";
+        about("promise 8, the tree");
         PackratGrammar x = withText("ab");
         defined(x, 1, 97);
         defined(x, 2, 98);
@@ -485,7 +476,7 @@ public final class PromiseTests {
     }
 
     private static void orderAndLimits() {
-        promise = "11";
+        about("promise 11");
         PackratGrammar x = withText("ab");
         defined(x, 0, 10, 21, 98);
         defined(x, 1, 97);
@@ -524,58 +515,5 @@ public final class PromiseTests {
         due(shown(list) + " is defined", defined(x, 0, list), true);
         x.parse(0, 0);
         dueTree(x, tree);
-    }
-
-    private static void dueTree(PackratGrammar x, String want) {
-        StringBuilder got = new StringBuilder();
-        for (int number = 0; number < x.nodes(); number++) {
-            got.append(number == 0 ? "" : " ").append(x.node(number, 0)).append(':')
-                .append(x.node(number, 1)).append('-').append(x.node(number, 2))
-                .append('@').append(x.node(number, 3));
-        }
-        if (!got.toString().equals(want)) {
-            tell("the tree is " + got + ", due is " + want);
-        }
-    }
-
-    private static void dueText(PackratGrammar x, String want) {
-        for (int place = 0; place < want.length(); place++) {
-            due("letter(" + place + ")", x.letter(place), want.charAt(place));
-        }
-        due("letter(" + want.length() + ")", x.letter(want.length()), REFUSED);
-    }
-
-    private static PackratGrammar withText(String text) {
-        PackratGrammar x = new PackratGrammar();
-        for (int place = 0; place < text.length(); place++) {
-            x.insert(place, text.charAt(place));
-        }
-        return x;
-    }
-
-    private static boolean defined(PackratGrammar x, int rule, int... list) {
-        for (int token : list) {
-            x.put(token, 0, 0, 0);
-        }
-        return x.define(rule);
-    }
-
-    private static String shown(int[] list) {
-        return java.util.Arrays.toString(list);
-    }
-
-    private static void due(String what, boolean got, boolean want) {
-        due(what, got ? 1 : 0, want ? 1 : 0);
-    }
-
-    private static void due(String what, int got, int want) {
-        if (got != want) {
-            tell(what + " answered " + got + ", due is " + want);
-        }
-    }
-
-    private static void tell(String message) {
-        wrong++;
-        System.out.println("promise " + promise + ": " + message);
     }
 }
