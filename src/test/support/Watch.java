@@ -3,7 +3,7 @@ import java.lang.reflect.InvocationTargetException;
 // Runs the main method of the test that is named, and fails if it does not end: a call that never
 // answers would else hold up CI instead of failing it.
 public final class Watch {
-    private static final long MOST_MILLISECONDS = 300000;
+    private static final long MOST_MILLISECONDS = 120000;
 
     public static void main(String[] args) throws Exception {
         Class<?> test = Class.forName(args[0]);
