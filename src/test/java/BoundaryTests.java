@@ -605,6 +605,14 @@ public final class BoundaryTests extends DueAnswers {
         for (int[] list : lists) {
             dueNotOneExpression(list);
         }
+        // A full list that breaks off leaves nothing to look at behind it.
+        for (int token : new int[] {3, 10, 11, 12, 13, 14, 15, 16}) {
+            dueNotOneExpression(12, 12, 12, 12, 12, 12, 12, 12, 12, 12, 12, token);
+            dueNotOneExpression(10, 97, 10, 97, 10, 97, 10, 97, 10, 97, 97, token);
+        }
+        for (int token : new int[] {3, 10, 11}) {
+            dueNotOneExpression(12, 12, 12, 12, 12, 12, 12, 12, 12, 12, token, 97);
+        }
     }
 
     private static void defineOfTooManyTokens() {
