@@ -26,6 +26,7 @@ public final class BoundaryTests extends DueAnswers {
 
     private static void terms() {
         lastOf512Calls();
+        everyMethodAsThe512thCall();
         expressionOfOneToken();
         expressionOfTwelveTokens();
         twelveTokensInEveryRule();
@@ -121,6 +122,48 @@ public final class BoundaryTests extends DueAnswers {
             calls++;
         }
         due("the 512th call", x.parse(1, 0), 1);
+    }
+
+    private static void everyMethodAsThe512thCall() {
+        about("what it is: each sentence holds for the 512th call");
+        due("put", after511Calls().put(97, 0, 98, 0), 4);
+        due("put of no token", after511Calls().put(9, 0, 0, 0), REFUSED);
+        due("put of zeros", after511Calls().put(0, 0, 0, 0), 2);
+        due("define", after511Calls().define(3), true);
+        due("define of no rule", after511Calls().define(4), false);
+        due("insert", after511Calls().insert(2, 122), 3);
+        due("insert at no place", after511Calls().insert(3, 122), REFUSED);
+        due("erase", after511Calls().erase(1), 1);
+        due("erase at no place", after511Calls().erase(2), REFUSED);
+        due("change", after511Calls().change(1, 122), 98);
+        due("change at no place", after511Calls().change(2, 122), REFUSED);
+        due("letter", after511Calls().letter(1), 98);
+        due("letter at no place", after511Calls().letter(2), REFUSED);
+        due("parse that ends", after511Calls().parse(0, 0), 1);
+        due("parse that fails", after511Calls().parse(0, 1), FAILS);
+        due("parse that is stuck", after511Calls().parse(2, 0), STUCK);
+        due("parse of no rule", after511Calls().parse(4, 0), REFUSED);
+        due("nodes", after511Calls().nodes(), 2);
+        int[] second = {1, 0, 1, 1};
+        for (int what = 0; what < 4; what++) {
+            due("node(1, " + what + ")", after511Calls().node(1, what), second[what]);
+        }
+        due("node of no number", after511Calls().node(2, 0), REFUSED);
+    }
+
+    // Text "ab"; rule 0 is rule 1, which is the letter a, and rule 2 is stuck; a tree of two nodes;
+    // two tokens pending that are one expression.
+    private static PackratGrammar after511Calls() {
+        PackratGrammar x = withText("ab");
+        defined(x, 0, 21);
+        defined(x, 1, 97);
+        defined(x, 2, 22);
+        x.parse(0, 0);
+        x.put(12, 1, 0, 0);
+        for (int calls = 10; calls < 511; calls++) {
+            x.letter(0);
+        }
+        return x;
     }
 
     private static void expressionOfOneToken() {

@@ -69,6 +69,13 @@ public final class ModelTests {
                 }
             }
         }
+        // Single calls up to the last one for which something is promised.
+        for (; made < CALLS; made++) {
+            int[] call = nextCall(model);
+            if (!sameAnswer(run, calls, x, model, call[0] == 9 ? new int[] {7, 0, 0, 0, 0} : call)) {
+                return;
+            }
+        }
     }
 
     private static int part(int[] list, int at) {
